@@ -300,8 +300,11 @@ public final class Model {
 
     static int slide(Looker l, Ball a, Ball b) {
         int best = 0;
+        int most = -1;
         for (int s = 31; s >= 0; s--) {
-            if (many(l, a, b, s) >= many(l, a, b, best)) {
+            int many = many(l, a, b, s);
+            if (many >= most) {
+                most = many;
                 best = s;
             }
         }
@@ -321,8 +324,28 @@ public final class Model {
         return most;
     }
 
-    /** Every way to change the slide at most three times, by sums up to each hair. */
+    /** From the last hair back to the first: the most from hair i on, at slide s there, with c changes left. */
     static int pieces(Looker l, Ball a, Ball b) {
+        int[][][] most = new int[33][4][32];
+        int all = 0;
+        for (int i = 31; i >= 0; i--) {
+            for (int c = 0; c < 4; c++) {
+                for (int s = 0; s < 32; s++) {
+                    int on = most[i + 1][c][s];
+                    if (c > 0) {
+                        on = Math.max(on, most[i + 1][c - 1][(s + 1) % 32]);
+                        on = Math.max(on, most[i + 1][c - 1][(s + 31) % 32]);
+                    }
+                    most[i][c][s] = on + (runs(l, a, b, i, s) ? 1 : 0);
+                    all = Math.max(all, most[i][c][s]);
+                }
+            }
+        }
+        return all;
+    }
+
+    /** The same by trying every way to change the slide at most three times, with sums up to each hair. */
+    static int piecesByEveryWay(Looker l, Ball a, Ball b) {
         int[][] upTo = new int[32][33];
         for (int s = 0; s < 32; s++) {
             for (int i = 0; i < 32; i++) {
@@ -331,18 +354,17 @@ public final class Model {
         }
         int most = 0;
         for (int s = 0; s < 32; s++) {
-            most = Math.max(most, pieces(upTo, s, 0, 3));
+            most = Math.max(most, everyWay(upTo, s, 0, 3));
         }
         return most;
     }
 
-    /** The most from hair `from` on, at slide s there, with so many changes left. */
-    static int pieces(int[][] upTo, int s, int from, int left) {
+    private static int everyWay(int[][] upTo, int s, int from, int left) {
         int most = upTo[s][32] - upTo[s][from];
         for (int cut = from + 1; cut < 32 && left > 0; cut++) {
             int here = upTo[s][cut] - upTo[s][from];
-            most = Math.max(most, here + pieces(upTo, (s + 1) % 32, cut, left - 1));
-            most = Math.max(most, here + pieces(upTo, (s + 31) % 32, cut, left - 1));
+            most = Math.max(most, here + everyWay(upTo, (s + 1) % 32, cut, left - 1));
+            most = Math.max(most, here + everyWay(upTo, (s + 31) % 32, cut, left - 1));
         }
         return most;
     }

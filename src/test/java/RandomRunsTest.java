@@ -43,9 +43,12 @@ public final class RandomRunsTest {
     private void go() throws Exception {
         int calls = 60 + random.nextInt(453);
         int setting = 1 + random.nextInt(5);
-        int kind = random.nextInt(4);
+        int kind = random.nextInt(6);
         if (kind == 0) {
             fill();
+        } else if (kind > 3) {
+            enrich();
+            setting = 0;
         }
         for (int n = 0; n < calls && agrees && told.size() < 512; n++) {
             boolean early = n < calls * setting / 8;
@@ -80,6 +83,43 @@ public final class RandomRunsTest {
         }
         for (int n = 0; n < 6; n++) {
             text(false);
+        }
+    }
+
+    /** A store in which lookers err, lean and join: texts made at random seldom make one. */
+    private void enrich() throws Exception {
+        String[] laws = {
+            "cut draw * 4 + draw / 4; take high + draw / 5 - 1; wear high + 1 when draw > 12; wear high - shots;",
+            "cut draw * 4 when draw > 2; take right when draw < soft; wear left when draw < 3 or rust > 50;",
+            "cut at * 2 + draw; take left when at > 9 and at < 20 + draw; wear high + draw - 7 when no draw < 12;"};
+        text(true, laws[random.nextInt(laws.length)]);
+        for (int n = 0; n < 3; n++) {
+            call("tool", random.nextInt());
+            call("looker", random.nextInt(8));
+            call("looker", random.nextInt(3));
+        }
+        for (int n = 0; n < 7; n++) {
+            call("barrel", random.nextInt(3));
+        }
+        int balls = 8 + random.nextInt(12);
+        for (int n = 0; n < balls; n++) {
+            if (random.nextInt(9) == 0) {
+                call("found");
+            } else {
+                call("shot", random.nextInt(7), random.nextInt(10));
+            }
+            call("hair", n, random.nextInt(32), -1);
+        }
+        for (int n = 0; n < 10; n++) {
+            int a = random.nextInt(balls);
+            call("pair", a, (a + 1 + random.nextInt(balls - 1)) % balls, 1 + random.nextInt(4));
+        }
+        for (int n = 0; n < 6; n++) {
+            text(false, "same longest > " + random.nextInt(20) + " - 4 * told or pieces > " + (14 + random.nextInt(15))
+                    + "; not best < " + (6 + random.nextInt(16)) + (random.nextBoolean() ? "; not told = 1;" : ";"), n);
+        }
+        for (int n = 0; n < 12; n++) {
+            call("scene", random.nextInt(8), random.nextInt(balls), true);
         }
     }
 
@@ -141,7 +181,14 @@ public final class RandomRunsTest {
     }
 
     private void text(boolean laws) throws Exception {
-        String text = TextMaker.make(random, laws);
+        text(laws, TextMaker.make(random, laws), who());
+    }
+
+    private void text(boolean laws, String text) throws Exception {
+        text(laws, text, 0);
+    }
+
+    private void text(boolean laws, String text, int looker) throws Exception {
         for (int from = 0; from < text.length(); from += 20) {
             int[] fed = TestTools.words(text, from);
             call("feed", fed[0], fed[1], fed[2], fed[3], fed[4]);
@@ -152,7 +199,7 @@ public final class RandomRunsTest {
         if (random.nextInt(20) == 0 ? !laws : laws) {
             call("laws");
         } else {
-            call("judgement", who());
+            call("judgement", looker);
         }
         call("fault", 0);
         call("fault", 1);

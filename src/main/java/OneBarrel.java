@@ -343,7 +343,7 @@ public final class OneBarrel {
         if (who == null || listed == null || k < 0 || k >= ballCount - 1) {
             return NONE;
         }
-        int key = Integer.MAX_VALUE;
+        int key = Kept.ABOVE_LIKENESS;
         for (int n = 0; n <= k; n++) {
             key = nextLikeness(who, listed, key);
         }
@@ -856,6 +856,7 @@ public final class OneBarrel {
         static final int SAID = 25;
         static final int SAID_TOLD = 27;
         static final int UNSAID = (1 << SAID) - 1;
+        static final int ABOVE_LIKENESS = 1 << 18;
 
         static int pack(int many, int slide, int longest) {
             return many | slide << 6 | longest << 11;

@@ -273,6 +273,16 @@ public final class LookingTest {
         TestTools.judgement(x, 0, "same slide = 23;");
         TestTools.due("the first one's row comes first", x.says(0, 1, 0, false), 1);
         TestTools.due("not the second's", x.says(0, 0, 1, false), 2);
+        TestTools.due("a ball beside itself", x.says(0, 0, 0, false), 2);
+        TestTools.judgement(x, 0, "same slide = 0; not slide = 23;");
+        TestTools.due("by another text", x.says(0, 0, 0, false), 1);
+        TestTools.due("the others by it", x.says(0, 1, 0, false), 0);
+        x.hair(0, 3, 63);
+        TestTools.due("an odd best", x.slid(0, 0, 1, 0), 29);
+        TestTools.due("its slide", x.slid(0, 0, 1, 1), 9);
+        TestTools.judgement(x, 0, "same best = 29 and slide = 9 and longest = 20;");
+        TestTools.due("still measured so", x.says(0, 0, 1, true), 1);
+        TestTools.due("the odd best behind a judgement", x.slid(0, 0, 1, 0), 29);
     }
 
     private static void says(OneBarrel x, String judgement, int want) {
@@ -421,6 +431,9 @@ public final class LookingTest {
         x.hair(5, 5, 11);
         TestTools.due("three between 0 and 6", x.far(1, 32), 3);
         TestTools.due("n 0", x.far(0, 0), -1);
+        OneBarrel two = store();
+        two.hair(0, 3, -1);
+        TestTools.due("two balls one behind the other", two.far(0, 32), 1);
         int[][] wrong = {{0, -1}, {0, 34}, {2, 5}, {-1, 5}};
         for (int[] w : wrong) {
             TestTools.due("far(" + w[0] + ", " + w[1] + ")", x.far(w[0], w[1]), -1);
@@ -471,6 +484,15 @@ public final class LookingTest {
         x.hair(0, 1, 2);
         x.hair(0, 10, 61);
         TestTools.due("the longest of 1 is longer", x.list(0, 2, 2), 1);
+        for (int i = 2; i < 20; i += 4) {
+            x.hair(3, i, 61);
+        }
+        for (int i = 10; i < 18; i++) {
+            x.hair(5, i, 61);
+        }
+        // Ball 3 has 27, 16 in a row; ball 5 has 24 in a row.
+        TestTools.due("many comes ahead of the longest", x.list(0, 2, 2), 3);
+        TestTools.due("the longer one behind it", x.list(0, 2, 3), 5);
         TestTools.due("place 5", x.list(0, 2, 5), -1);
         TestTools.due("place -1", x.list(0, 2, -1), -1);
         TestTools.due("ball 6", x.list(0, 6, 0), -1);

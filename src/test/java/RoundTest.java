@@ -10,6 +10,7 @@ public final class RoundTest {
         joined();
         weakest();
         joinedOrder();
+        joinedEnds();
         TestTools.close();
     }
 
@@ -240,6 +241,38 @@ public final class RoundTest {
         // A ball of two scenes is beside itself.
         x.scene(4, 1, true);
         TestTools.due("joined by a ball of both", x.joined(0, 14), 1);
+    }
+
+    /** Scenes 0 and 1, and 6 and 7: the first and the last ones. */
+    private static void joinedEnds() {
+        OneBarrel x = new OneBarrel();
+        x.looker(0);
+        for (int ball = 0; ball < 8; ball++) {
+            x.found();
+            for (int i = 0; i < 32; i++) {
+                x.hair(ball, i, -1);
+            }
+            x.scene(ball, ball, true);
+        }
+        TestTools.judgement(x, 0, "same longest > 2;");
+        TestTools.due("eight groups", x.joined(0, 0), 8);
+        link(x, 0, 1, 3, 40, 4);
+        link(x, 6, 7, 3, 50, 3);
+        int[] least = {0, 0, 2, 3, 4, 5, 6, 6};
+        for (int k = 0; k < 8; k++) {
+            TestTools.due("group of " + k, x.joined(0, 10 + k), least[k]);
+        }
+        TestTools.due("six groups", x.joined(0, 0), 6);
+        TestTools.due("the weakest", x.joined(0, 1), 8 * 6 + 7);
+        link(x, 0, 7, 20, 10, 3);
+        link(x, 4, 5, 20, 20, 3);
+        link(x, 5, 6, 24, 30, 3);
+        int[] now = {0, 0, 2, 3, 0, 0, 0, 0};
+        for (int k = 0; k < 8; k++) {
+            TestTools.due("group of " + k + " now", x.joined(0, 10 + k), now[k]);
+        }
+        TestTools.due("three groups", x.joined(0, 0), 3);
+        TestTools.due("the first two of the weakest", x.joined(0, 1), 7);
     }
 
     /** Hairs that two balls have in common, from a hair on. */

@@ -9,6 +9,7 @@ public final class TextTest {
         tokens();
         faultsOfLaws();
         faultsOfJudgements();
+        longTexts();
         values();
         TestTools.close();
     }
@@ -53,6 +54,39 @@ public final class TextTest {
         x.feed(0, 0, 0, 0, 0);
         TestTools.due("end(0)", x.end(0), true);
         TestTools.due("nothing was left", x.laws(), 0);
+        // What stood behind the end is no part of the last token.
+        x.feed(0x63757420, 0x31323334, 0x35363738, 0x20202020, 0x20202020);
+        x.end(8);
+        TestTools.due("an open line", x.laws(), -1);
+        TestTools.due("the number has four digits", x.fault(1), 8);
+    }
+
+    /** As many tokens as there are bytes, and long texts again and again. */
+    private static void longTexts() {
+        isLaw(";".repeat(600), 1, 0);
+        isLaw("cut 1" + "+1".repeat(297), 1, 599);
+        isLaw("cut 1" + "+1".repeat(296) + ";  ", 0, -1);
+        isLaw("cut 1+" + "1+".repeat(296) + "1;", 0, -1);
+        isLaw("cut " + "1*".repeat(297) + "1;", 0, -1);
+        isLaw("cut 1 when 1=1" + "and 1=1".repeat(83) + ";    ", 0, -1);
+        isLaw("cut 1 when 1=1" + "or 1=1".repeat(97) + ";   ", 0, -1);
+        OneBarrel x = new OneBarrel();
+        x.looker(0);
+        x.found();
+        for (int n = 0; n < 4; n++) {
+            TestTools.due("long laws", TestTools.laws(x, "cut 1" + "+1".repeat(29 + n) + ";" + " ".repeat(500)), 1);
+            TestTools.due("a long judgement",
+                    TestTools.judgement(x, 0, "same " + n + "=1" + "+0".repeat(290) + ";"), 1);
+            TestTools.due("what it says", x.says(0, 0, 0, false), n == 1 ? 1 : 2);
+        }
+        x.tool(0);
+        x.barrel(0);
+        TestTools.due("what they tell", x.at(0, 0, 0), 33);
+        for (int n = 0; n < 4; n++) {
+            TestTools.laws(x, "cut 0" + "+0".repeat(290) + "+" + n + ";");
+            x.barrel(0);
+            TestTools.due("what they tell at last", x.at(0, 0, 0), n);
+        }
     }
 
     /** Promise 13. */
@@ -138,6 +172,14 @@ public final class TextTest {
         isLaw("cutat;", 1, 0);
         isLaw("Cut 1;", 1, 0);
         isLaw("cuT 1;", 1, 0);
+        isLaw("cutz 1;", 1, 0);
+        isLaw("cutA 1;", 1, 0);
+        isLaw("cutZ 1;", 1, 0);
+        isLaw("cut[ 1;", 1, 3);
+        isLaw("cut@ 1;", 1, 3);
+        isLaw("cut` 1;", 1, 3);
+        isLaw("cut{ 1;", 1, 3);
+        isLaw("cut 1: 1;", 1, 5);
         isLaw("cut 1x;", 1, 5);
         isLaw("cut 1\t;", 1, 5);
         isLaw("cut 1\r\n;", 1, 5);
@@ -243,6 +285,8 @@ public final class TextTest {
         isValue("20 - 3 - 2", 15);
         isValue("20 - 3 + 2", 19);
         isValue("7 / 2 * 2", 6);
+        isValue("7 / 1", 7);
+        isValue("7 / 0007", 1);
         isValue("2 * 7 / 2", 7);
         isValue("20 + (0", -1);
         isValue("40 - 7 * 3 / 2", 30);
@@ -261,6 +305,10 @@ public final class TextTest {
         isSo("no 1 = 2 and 1 = 2", false);
         isSo("no (1 = 2 and 1 = 2)", true);
         isSo("no no 1 = 1", true);
+        isSo("no 1 = 1", false);
+        isSo("no no no 1 = 1", false);
+        isSo("no 1 < 2 and 3 > 2", false);
+        isSo("3 > 2 and 1 = 1 and 1 < 2", true);
         isSo("no 1 = 1 or 1 = 1", true);
         isSo("0 - 7 / 2 = 0 - 3", true);
         isSo("at - 37 / 2 < 0", true);

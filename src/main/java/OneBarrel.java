@@ -8,7 +8,7 @@ public final class OneBarrel {
     private static final int ABSENT = NONE - 1;
 
     private static final int HAIRS = 32;
-    private static final int ROUND = HAIRS - 1;
+    private static final int WRAP = HAIRS - 1;
     private static final int HIGHEST = 63;
     private static final int FIRST_HEIGHT = 32;
     private static final int TOOLS = 6;
@@ -759,9 +759,9 @@ public final class OneBarrel {
 
         void tellHair(int i, int draw) {
             facts[PLACE_FACT] = i;
-            facts[HIGH_FACT] = ahead[i & ROUND];
-            facts[LEFT_FACT] = ahead[i - 1 & ROUND];
-            facts[RIGHT_FACT] = ahead[i + 1 & ROUND];
+            facts[HIGH_FACT] = ahead[i & WRAP];
+            facts[LEFT_FACT] = ahead[i - 1 & WRAP];
+            facts[RIGHT_FACT] = ahead[i + 1 & WRAP];
             facts[DRAW_FACT] = draw;
         }
 
@@ -781,7 +781,7 @@ public final class OneBarrel {
             int set = 0;
             for (int i = 0; i < HAIRS; i++) {
                 int a = first[i];
-                int b = second[i + slide & ROUND];
+                int b = second[i + slide & WRAP];
                 if (a != NONE && b != NONE && a - b <= margin && b - a <= margin) {
                     set |= 1 << i;
                 }
@@ -794,7 +794,7 @@ public final class OneBarrel {
             int left = set;
             int steps = 0;
             for (int n = 0; n < HAIRS && left != 0; n++) {
-                left &= left << 1 | left >>> ROUND;
+                left &= left << 1 | left >>> WRAP;
                 steps++;
             }
             return steps;
@@ -840,8 +840,8 @@ public final class OneBarrel {
             for (int s = 0; s < HAIRS; s++) {
                 int before = most[from + s];
                 if (lesser >= 0) {
-                    before = Math.max(before, most[lesser + (s - 1 & ROUND)]);
-                    before = Math.max(before, most[lesser + (s + 1 & ROUND)]);
+                    before = Math.max(before, most[lesser + (s - 1 & WRAP)]);
+                    before = Math.max(before, most[lesser + (s + 1 & WRAP)]);
                 }
                 most[from + s] = before + (sets[s] >>> i & 1);
             }

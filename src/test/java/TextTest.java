@@ -82,6 +82,17 @@ public final class TextTest {
         x.tool(0);
         x.barrel(0);
         TestTools.due("what they tell", x.at(0, 0, 0), 33);
+        // Short lines behind long ones: nothing of the long ones is left.
+        for (int n = 0; n < 3; n++) {
+            TestTools.laws(x, "cut 1" + "+1".repeat(250) + "; cut 5 when at<0" + "+1".repeat(20) + "; cut 6;");
+        }
+        TestTools.laws(x, "cut 1 when at < 0; cut 7 when at < 1; cut 8;");
+        x.barrel(0);
+        TestTools.due("the second line", x.at(0, 0, 0), 7);
+        TestTools.due("the third line", x.at(0, 0, 1), 8);
+        TestTools.laws(x, "cut 1 when at < 0;".repeat(15) + "cut 1 + 2 * high when at = 0 and (at = 1 or 2 * 3 > 5);");
+        x.barrel(0);
+        TestTools.due("the sixteenth line", x.at(0, 0, 0), 15);
         for (int n = 0; n < 4; n++) {
             TestTools.laws(x, "cut 0" + "+0".repeat(290) + "+" + n + ";");
             x.barrel(0);

@@ -18,6 +18,11 @@ public final class TestTools {
         due(call, got ? 1 : 0, want ? 1 : 0);
     }
 
+    /** How many answers were looked at so far. */
+    public static int checked() {
+        return checked;
+    }
+
     /** Ends the test: with exit code 1 if an answer was not as due. */
     public static void close() {
         System.out.println(wrong == 0 ? checked + " answers are as due" : wrong + " answers are not as due");

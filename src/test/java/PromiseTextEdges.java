@@ -34,7 +34,7 @@ final class PromiseTextEdges {
     private static void bytes() {
         // One byte that can't stand there tells its own place, be it the highest or the lowest of its number.
         for (int place = 0; place < 20; place++) {
-            for (int bad : new int[] {'x', 0, 128, 255}) {
+            for (int bad : new int[] {'x', 0, 128, 128 + 10, 128 + 32, 255}) {
                 int[] numbers = {BLANKS, BLANKS, BLANKS, BLANKS, BLANKS};
                 int shift = 24 - 8 * (place % 4);
                 numbers[place / 4] = BLANKS & ~(255 << shift) | bad << shift;

@@ -40,7 +40,7 @@ final class TermsMakingEdges {
     }
 
     /** The draws behind the first `skipped` ones, by the document's numbers in longs, which do not wrap by themselves. */
-    private static int[] draws(int state, int skipped) {
+    static int[] draws(int state, int skipped) {
         long s = state & 0xFFFFFFFFL;
         int[] draws = new int[32];
         for (int n = 0; n < skipped + 32; n++) {
@@ -70,7 +70,7 @@ final class TermsMakingEdges {
         t.barrel(0);
         t.found();
         while (t.calls() < 508) {
-            t.hair(0, t.calls() % 32, t.calls() % 64);
+            t.due(t.hair(0, t.calls() % 32, t.calls() % 64), true);
         }
         t.due(t.look(2), 1);
         t.due(t.at(0, 0, 0), draws(7, 0)[0]);

@@ -421,6 +421,8 @@ final class TermsRoundEdges {
         // Of the pair 0 - 1 he no longer says same: the best of the others counts, and it is the weakest now.
         Stores.joins(t, 2, 5, 3, 4);
         dueWeakest(t, 1, 27);
+        Stores.joins(t, 0, 5, 3, 4);
+        dueWeakest(t, 1, 27);
         Stores.joins(t, 0, 5, 1, 2, 3, 4);
         dueWeakest(t, 8 * 2 + 3, 28);
         Stores.joins(t, 0, 5, 1, 2);

@@ -559,25 +559,30 @@ final class TermsTextEdges {
 
     private static void drawOfHair() {
         Trial t = new Trial();
-        t.tool(0);
-        t.laws("cut draw*4+at/8;");
+        t.tool(11);
+        t.laws("cut draw; take draw; wear draw;");
         t.barrel(0);
-        t.laws("take draw*4+at/8;");
         t.shot(0, 0);
-        // Tool and barrel had one state: both changes have the same draws, hair by hair.
+        // Tool and barrel had one state: cut and take have the same draws, hair by hair, and wear those behind them.
+        t.dueRow(0, 0, TermsMakingEdges.draws(11, 0));
+        t.dueRow(2, 0, TermsMakingEdges.draws(11, 0));
+        t.dueRow(1, 0, TermsMakingEdges.draws(11, 32));
+        // It is the draw in B too, and in both parts of a line the same.
+        t.laws("take draw+20 when draw>7; take draw+40;");
+        t.shot(0, 0);
+        int[] draws = TermsMakingEdges.draws(11, 64);
         for (int i = 0; i < 32; i++) {
-            int edge = t.at(0, 0, i);
-            t.due(t.at(2, 0, i), edge);
+            t.due(t.at(2, 1, i), draws[i] > 7 ? draws[i] + 20 : draws[i] + 40);
         }
         t.laws("take 1 when draw<16 and draw>0-1; take 2;");
         t.shot(0, 0);
-        t.due(t.at(2, 1, 0), 1);
-        t.due(t.at(2, 1, 31), 1);
+        t.due(t.at(2, 2, 0), 1);
+        t.due(t.at(2, 2, 31), 1);
         // One hair has one draw, however often it is asked.
         t.laws("take 1 when draw=draw and draw-draw=0; take 2;");
         t.shot(0, 0);
-        t.due(t.at(2, 2, 0), 1);
-        t.due(t.at(2, 2, 31), 1);
+        t.due(t.at(2, 3, 0), 1);
+        t.due(t.at(2, 3, 31), 1);
     }
 
     private static void shots() {
